@@ -71,8 +71,6 @@ public final class BrokenLoaves {
         road.need[k] = need;
         road.tale[k] = tale;
         road.gate[k] = gate;
-        road.now.setMet(k, 0);
-        road.now.setFed(k, 0);
         road.count = k + 1;
         return k;
     }

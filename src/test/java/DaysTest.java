@@ -122,6 +122,12 @@ public final class DaysTest {
         Check.due("16 over", x.on(16), 0);
         Check.due("17 fed now", x.when(0), -3);
         x.again();
+        Check.due("17 the last but one day is not enough", when[4], 4);
+        x.ends(4);
+        Check.due("17 over ahead of it", x.when(4), -3);
+        x.ends(5);
+        Check.due("17 on the last day", x.when(4), 4);
+        x.ends(12);
         x.change(4, 1, 60);
         x.remake(4, 4);
         Check.due("17 never", x.when(4), -3);
@@ -174,6 +180,11 @@ public final class DaysTest {
         Check.due("20 12 + 12 - 2 - 1", x.bakery(21), 0);
         Check.due("20 21 + 18 - 4 - 1", x.bakery(22), 1);
         Check.due("20 34", x.bakery(34), 1);
+        x.ends(2);
+        Check.due("20 on the last day", x.bakery(34), 1);
+        x.ends(1);
+        Check.due("20 over ahead of it", x.bakery(34), -3);
+        x.ends(12);
         Check.due("20 35", x.bakery(35), -3);
         Check.due("21 two are fed", x.winter(0), 10);
         Check.due("21 34 less 10", x.winter(1), 24);

@@ -7,6 +7,8 @@ public final class PlansTest {
         byRealDays(Check.five(), "");
         byRealDays(Check.five(), "tramp if day < 1 shut; pilgrim pass; double if strange > 5 and not snow < 2 break;");
         byRealDays(crowd(), "");
+        asTheFirstCall();
+        aGameInWhichNoneIsNotBest();
         nearTheEnd();
         wrongInputs();
         rows();
@@ -121,6 +123,36 @@ public final class PlansTest {
             value = acts.length % 2 == 0 ? Math.max(value, v) : Math.min(value, v);
         }
         return value;
+    }
+
+    /** Each is asked of an object that was asked nothing else. */
+    private static void asTheFirstCall() {
+        Check.due("24 best", Check.five().best(2), 55);
+        Check.due("25 ith", Check.five().ith(2, 0), 5);
+        Check.due("26 ways", Check.five().ways(2), 1);
+        Check.due("27 feast", Check.five().feast(2, 8), 2);
+        Check.due("28 bars", Check.five().bars(1, 31), 2);
+        Check.due("28 bars", Check.five().bars(2, 16), -3);
+        Check.due("29 game", Check.five().game(2), 28);
+        Check.due("30 play", Check.five().play(2), 5);
+        Check.due("38 prove", Check.five().prove(2), 2);
+    }
+
+    /** On day 1 the other one pays 1 for a pass, so that the tramp is 2 less strange on day 2. */
+    private static void aGameInWhichNoneIsNotBest() {
+        BrokenLoaves x = new BrokenLoaves();
+        x.person(1, 60, 9, 0);
+        Check.rules(x, "tramp if day = 1 pass;");
+        Check.due("29 18", x.game(1), 18);
+        Check.due("29 18 and 0", x.game(2), 18);
+        Check.due("29 18 and 1 and 14", x.game(3), 33);
+        Check.due("30 break", x.play(3), 1);
+        x.day();
+        x.change(0, 4, 0);
+        Check.due("29 from day 1: 1, then 0", x.game(2), 1);
+        Check.due("29 0, 0, 18 is more than 1, 0, 16", x.game(3), 18);
+        Check.due("30 none", x.play(3), 0);
+        byRealDays(x, "tramp if day = 2 or day = 4 pass; tramp if day = 3 shut;");
     }
 
     private static void nearTheEnd() {

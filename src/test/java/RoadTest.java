@@ -6,6 +6,7 @@ public final class RoadTest {
         strangeAndEats();
         changes();
         weatherAndGates();
+        weatherOfTheLastDay();
         houseAndEnds();
         anewAndState();
         refusalsChangeNothing();
@@ -59,6 +60,8 @@ public final class RoadTest {
             for (int k = 0; k < 6; k++) Check.due("3 strange on " + day + " of " + k, x.personOf(k, 6), strange[day][k]);
             x.day();
         }
+        x.day();
+        Check.due("3 double on day 5", x.personOf(4, 6), 9);
         x.gate(3, 0, 5);
         x.change(0, 4, 4);
         Check.due("3 dust more, twice met less", x.personOf(0, 6), 14 + 5 - 8);
@@ -87,6 +90,13 @@ public final class RoadTest {
             Check.due("4 is 0 " + what, x.personOf(0, what), 0);
             Check.due("4 another person is as it was", x.personOf(1, what), new int[] {0, 16, 9, 1, 0, 0}[what]);
         }
+        for (int k = 0; k < 5; k++) {
+            for (int v : new int[] {9, 6, 1, 8, 0}) {
+                x.change(k, 4, v);
+                Check.due("4 met of each is its own", x.personOf(k, 4), v);
+                Check.due("4 met of the others is", x.state(4), v == 0 ? 0 : 1 << k);
+            }
+        }
         Check.due("4 kind", x.change(0, 0, 1), -1);
         Check.due("4 what 6", x.change(0, 6, 0), -1);
         Check.due("4 none such", x.change(5, 1, 0), -1);
@@ -104,6 +114,16 @@ public final class RoadTest {
         Check.due("5 met stays", x.personOf(2, 4), 3);
         Check.due("5 fed stays", x.personOf(2, 5), 1);
         Check.due("5 eats as the new kind", x.personOf(2, 7), 5);
+    }
+
+    private static void weatherOfTheLastDay() {
+        BrokenLoaves x = new BrokenLoaves();
+        x.ends(16);
+        for (int d = 0; d < 15; d++) x.day();
+        x.house(0, 2);
+        x.weather(15, 12);
+        x.day();
+        Check.due("6 day 15 snows 3", x.state(7), 5);
     }
 
     private static void weatherAndGates() {
@@ -190,8 +210,15 @@ public final class RoadTest {
         Check.due("11 z stays", x.seed(9), 9);
         Check.due("11 weather stays", x.weather(2, 7), 7);
         Check.due("11 gates stay", x.gateOf(1, 0), 5);
-        for (int d = 0; d < 16; d++) x.day();
+        x.weather(15, 11);
+        for (int d = 0; d < 15; d++) x.day();
+        Check.due("12 weather of day 15", x.state(6), 11);
+        int snow = x.state(7);
+        x.house(0, 3);
+        x.day();
         Check.due("12 day 16", x.state(0), 16);
+        Check.due("12 none on day 15", x.state(7), 3);
+        Check.due("12 it snowed on the days ahead", snow, 9);
         Check.due("12 no weather behind day 15", x.state(6), 0);
         Check.due("12 over", x.state(3), 1);
         Check.due("11 from the end", x.anew(), 16);

@@ -64,6 +64,11 @@ public final class RulesTest {
         fault("tramp pass;;", 11);
         fault("tramp pass tramp pass;", 11);
         fault("pass;", 0);
+        fault("break pass;", 0);
+        fault("cramp pass;", 0);
+        fault("tramp mass;", 6);
+        fault("tramp if 1 < 2", 14);
+        fault("tramp if 12", 11);
         fault("tramp if", 8);
         fault("tramp if pass;", 9);
         fault("tramp if day pass;", 13);

@@ -4,6 +4,7 @@ public final class StrangersTest {
         reports();
         whoFits();
         courses();
+        eachKind();
         liars();
         lots();
         times();
@@ -96,6 +97,31 @@ public final class StrangersTest {
         x.report(1, 0, 0, 8);
         // nobody strange: 12 - 1 - 1 with snow 3 .. 5, 12 - 1 - 2 with 6 to 8, 12 - 1 - 3 with 9
         Check.due("33 snow eats a third", x.tales(3), 6);
+    }
+
+    /** So strange on day 0, by weather that does nothing, is first of all that kind with that tale. */
+    private static void eachKind() {
+        int[][] least = {{1, 0, 0}, {1, 9, 18}, {2, 0, 3}, {2, 8, 11}, {3, 8, 13}, {4, 2, 1}};
+        for (int[] l : least) {
+            BrokenLoaves x = new BrokenLoaves();
+            for (int d = 0; d < 16; d++) x.weather(d, 3);
+            x.report(0, 1, 1, 1);
+            x.report(1, 0, 11 + l[2], 11 + l[2]);
+            Check.due("33 kind of strange " + l[2], x.tales(1), l[0]);
+            Check.due("33 tale of strange " + l[2], x.tales(2), l[1]);
+            Check.due("33 snow of strange " + l[2], x.tales(3), 1);
+        }
+        BrokenLoaves x = new BrokenLoaves();
+        x.report(0, 1, 0, 0);
+        // behind day 0 an old friend of tale 0 brings nothing, nor does a tramp, or a double: snow 1, 12 - 1
+        x.report(1, 0, 11, 11);
+        x.report(2, 0, 10, 10);
+        x.report(3, 0, 8, 8);
+        Check.due("33 tramp with 0, friends with 0 and 1", x.tales(0), 3);
+        Check.due("34 some fit", x.liar(), -3);
+        x.report(0, 1, 0, 0);
+        x.report(4, 0, 0, 6);
+        Check.due("33 they stay", x.tales(0), 3);
     }
 
     private static void liars() {
