@@ -256,6 +256,14 @@ public final class DaysTest {
         Check.due("23 all fed", x.rounds(7, 0), 0);
         Check.due("23 all fed first", x.rounds(7, 1), -3);
         Check.due("23 bad ahead of none", x.rounds(1000, 1), -1);
+        x.change(0, 5, 0);
+        x.change(0, 1, 0);
+        Check.due("23 need 0", x.rounds(0, 0), 0);
+        Check.due("23 need 0 first", x.rounds(0, 1), 0);
+        x.change(1, 5, 0);
+        Check.due("23 0 and 10", x.rounds(3, 0), 13);
+        x.change(0, 1, 60);
+        Check.due("23 60 and 10", x.rounds(3, 0), 57);
     }
 
     private static void askingChangesNothing() {

@@ -6,6 +6,7 @@ public final class RulesTest {
         faults();
         conditions();
         facts();
+        shorterTexts();
         kinds();
         aFaultChangesNothing();
         Check.finish();
@@ -166,6 +167,21 @@ public final class RulesTest {
         Check.due("14 strange still", x.personOf(1, 8), 2);
         x.change(1, 4, 2);
         Check.due("14 strange still, met", x.personOf(1, 8), 1);
+    }
+
+    /** A shorter text comes behind a longer one, of which nothing is left. */
+    private static void shorterTexts() {
+        BrokenLoaves x = Check.five();
+        Check.rules(x, "friend pass; tramp shut; pilgrim shut;");
+        Check.due("14 one rule", Check.rules(x, "friend pass;"), 1);
+        Check.due("14 the second is gone", x.personOf(0, 8), 0);
+        Check.due("14 the third is gone", x.personOf(1, 8), 0);
+        Check.rules(x, "tramp passes if day < 12345678;");
+        Check.due("14 a name at the end", Check.rules(x, "tramp pass"), -100 - 10);
+        Check.rules(x, "tramp 9999999999999999999999999999999999");
+        Check.due("14 a number at the end", Check.rules(x, "tramp if day < 1234"), -100 - 19);
+        Check.due("14 no rule is left", Check.rules(x, ""), 0);
+        Check.due("14 break then", x.personOf(2, 8), 0);
     }
 
     private static void kinds() {
