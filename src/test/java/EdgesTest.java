@@ -8,6 +8,7 @@ public final class EdgesTest {
         new StrangersEdges().all();
         new HostEdges().all();
         new KeptEdges().all();
+        new TermsEdges().all();
         Edge.allWereNamed();
         Check.finish();
     }

@@ -344,7 +344,7 @@ final class StrangersEdges extends Edge {
             range(0, 999, BUSY, (x, v) -> x.times(3, v));
             BrokenLoaves x = Check.five();
             int worth = 0;
-            while (x.state(3) == 0) worth += x.lot();
+            for (int d = 0; d < 12; d++) worth += x.lot();
             is("as much", Check.five().times(1, worth), 1);
             is("1 less", Check.five().times(1, worth - 1), 1);
             is("1 more", Check.five().times(1, worth + 1), 0);
@@ -367,7 +367,7 @@ final class StrangersEdges extends Edge {
                 BrokenLoaves x = Check.five();
                 x.day();
                 x.seed(z);
-                while (x.state(3) == 0) worth[t] += x.lot();
+                for (int d = 1; d < 12; d++) worth[t] += x.lot();
                 z = x.seed(0);
             }
             for (int n = 1; n <= 40; n++) {
