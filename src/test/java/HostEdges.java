@@ -91,6 +91,13 @@ final class HostEdges extends Edge {
             }
         });
         says(42, "BAD: no such SHEET, sort, n above 40; -14.", () -> {
+            // whatever the SHEET is: bytes, shorts, a row of none, missing
+            for (int s = 0; s < 4; s++) {
+                int sheet = s;
+                refuses(BAD, BUSY, x -> x.sheet(sheet, 2, 41));
+                refuses(-14, BUSY, x -> x.sheet(sheet, 2, -1));
+                outside(-1, 4, BUSY, (x, v) -> x.sheet(sheet, v, 1));
+            }
             refuses(BAD, BUSY, x -> x.sheet(4, 0, -1));
             refuses(BAD, BUSY, x -> x.sheet(-1, 0, -1));
             refuses(BAD, BUSY, x -> x.sheet(0, 5, -1));
@@ -355,8 +362,14 @@ final class HostEdges extends Edge {
             range(0, 4, BUSY, (x, v) -> x.shelf(0, 0, v));
             range(0, 5, CROWDED, (x, v) -> x.shelf(0, 0, v));
             range(0, 3, BUSY, (x, v) -> x.shelf(0, 1, v));
+            // whatever the SHELF holds: a PERSON, a row, nothing, another PERSON
+            for (int s = 0; s < 4; s++) {
+                int shelf = s;
+                outside(0, 4, BUSY, (x, v) -> x.shelf(shelf, 0, v));
+                outside(0, 3, BUSY, (x, v) -> x.shelf(shelf, 1, v));
+                outside(0, 2, BUSY, (x, v) -> x.shelf(shelf, v, 0));
+            }
             refuses(BAD, EMPTY, x -> x.shelf(0, 0, 0));
-            refuses(BAD, BUSY, x -> x.shelf(1, 3, 0));
         });
         says(47, "nothing (2): 1.", () -> {
             for (int n : new int[] {0, -1, 4, 5, 6, Integer.MIN_VALUE, Integer.MAX_VALUE}) {

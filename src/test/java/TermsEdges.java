@@ -209,6 +209,18 @@ final class TermsEdges extends Edge {
             is("ith of 4", x.ith(4, 3), 1);
             is("of 1, behind that", x.ith(1, 3), NONE);
         });
+        says(29, "What is asked changes nothing, if not told.", () -> {
+            for (int n = 1; n <= 4; n++) {
+                BrokenLoaves x = CROWDED.make();
+                BrokenLoaves same = CROWDED.make();
+                x.game(4);
+                x.play(3);
+                x.house(1, 3);
+                same.house(1, 3);
+                is("VALUE of " + n, x.game(n), same.game(n));
+                is("ACT of " + n, x.play(n), same.play(n));
+            }
+        });
         says(14, "both as long as they go", () -> {
             BrokenLoaves x = new BrokenLoaves();
             Check.rules(x, "99999999999999999999999999999999999999999999");
