@@ -32,21 +32,25 @@ final class KeptEdges extends Edge {
         });
     }
 
-    /** All that is kept becomes another. */
+    /** All that is kept becomes another: numbers that no road here has, kinds and FED turned around. */
     private static void upsideDown(BrokenLoaves x) {
         x.person(4, 3, 2, 1);
-        for (int k = 0; k < x.many(0); k++) {
-            int[] most = {0, 60, 9, 5, 9, 1};
-            for (int what = 1; what <= 5; what++) x.change(k, what, most[what] - x.personOf(k, what));
-            x.remake(k, 1 + x.personOf(k, 0) % 5);
+        int people = x.many(0);
+        for (int k = 0; k < people; k++) {
+            x.change(k, 1, 33);
+            x.change(k, 2, 1);
+            x.change(k, 3, 4);
+            x.change(k, 4, 8);
+            x.change(k, 5, k < 2 ? 0 : 1);
+            x.remake(k, 1 + (k + 2) % 5);
         }
-        for (int d = 0; d < 16; d++) x.weather(d, d);
+        for (int d = 0; d < 16; d++) x.weather(d, 13);
         for (int g = 0; g < 6; g++) {
-            x.gate(g, 0, 9 - x.gateOf(g, 0));
-            x.gate(g, 1, 9 - x.gateOf(g, 1));
+            x.gate(g, 0, 8);
+            x.gate(g, 1, 1);
         }
-        x.house(0, 9 - x.state(7));
-        x.house(1, 999 - x.state(8));
+        x.house(0, 8);
+        x.house(1, 777);
         x.ends(16);
         x.lot();
         x.forget();
