@@ -221,6 +221,17 @@ final class PlansEdges extends Edge {
             is("12, 0", x.game(2), 12);
             is("12, then 0 and 1, or 1 and 0", x.game(3), 13);
         });
+        says(29, "VALUE: that, if both play as well as they can.", () -> {
+            BrokenLoaves x = Roads.one(1, 60, 9);
+            Check.rules(x, "tramp if day=1 pass;");
+            // the other one gives 1 for a pass on day 1, so that the tramp is worth 14 on day 2, not 16
+            is("18, 1, 14", x.game(3), 33);
+            is("by the tramp", x.play(3), 1);
+            x.day();
+            // from day 1 a pass is worth 1 now, and 2 less on day 3
+            is("0, 0, 18", x.game(3), 18);
+            is("none", x.play(3), 0);
+        });
     }
 
     private void play() {
