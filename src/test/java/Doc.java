@@ -1,7 +1,9 @@
 import java.io.File;
 import java.nio.file.Files;
+import java.util.ArrayList;
+import java.util.LinkedHashSet;
+import java.util.List;
 import java.util.Set;
-import java.util.TreeSet;
 import java.util.regex.Matcher;
 import java.util.regex.Pattern;
 
@@ -9,6 +11,7 @@ import java.util.regex.Pattern;
 final class Doc {
     static final int PROMISES = 53;
     private static final Pattern REFUSAL = Pattern.compile("\\b(BAD|FULL|NONE|STATE)\\b|-(9|1[1-5])\\b");
+    private static final Pattern CALL = Pattern.compile("public int (\\w+)(\\([^)]*\\));");
     private static final String TEXT = read();
 
     private Doc() {
@@ -42,16 +45,24 @@ final class Doc {
         return !isThere() || section(promise).contains(words) || section(0).contains(words);
     }
 
-    /** The refusals that the section of a promise names, as numbers. */
+    /** The calls of the face, each as name(its arguments), in the order of their promises. */
+    static List<String> face() {
+        List<String> calls = new ArrayList<>();
+        Matcher m = CALL.matcher(TEXT);
+        while (m.find()) calls.add(m.group(1) + m.group(2).replaceAll("(int|long) ", ""));
+        return calls;
+    }
+
+    /** The refusals that the section of a promise names, as numbers, in its order. */
     static Set<Integer> refusals(int promise) {
-        Set<Integer> named = new TreeSet<>();
+        Set<Integer> named = new LinkedHashSet<>();
         if (!isThere()) return named;
         Matcher m = REFUSAL.matcher(section(promise));
         while (m.find()) named.add(numberOf(m.group()));
         return named;
     }
 
-    private static int numberOf(String refusal) {
+    static int numberOf(String refusal) {
         switch (refusal) {
             case "BAD": return BrokenLoaves.BAD;
             case "FULL": return BrokenLoaves.FULL;
